@@ -1,0 +1,59 @@
+/** Counts the answers that are not due, and ends a test with exit code 1 if there was one. */
+final class Checks {
+    private static final double CLOSE = 1e-12;
+
+    private final String name;
+    private int made = 0;
+    private int wrong = 0;
+
+    Checks(String name) {
+        this.name = name;
+    }
+
+    void due(String what, long got, long want) {
+        made++;
+        if (got != want) {
+            fail(what + " answered " + got + ", due is " + want);
+        }
+    }
+
+    void dueDouble(String what, double got, double want) {
+        made++;
+        if (!(Math.abs(got - want) <= CLOSE)) {
+            fail(what + " answered " + got + ", due is " + want);
+        }
+    }
+
+    void holds(String what, boolean right) {
+        made++;
+        if (!right) {
+            fail(what);
+        }
+    }
+
+    private void fail(String what) {
+        wrong++;
+        if (wrong <= 20) {
+            System.out.println(name + ": " + what);
+        }
+    }
+
+    boolean allRight() {
+        return wrong == 0;
+    }
+
+    void end() {
+        System.out.println(name + ": " + made + " checks, " + wrong + " wrong");
+        if (wrong != 0) {
+            System.exit(1);
+        }
+    }
+
+    /** Puts a whole text on the pad, in place of the one that was. */
+    static void write(DriftPlans plans, String text) {
+        plans.clear();
+        for (int place = 0; place < text.length(); place++) {
+            plans.append(text.charAt(place));
+        }
+    }
+}
