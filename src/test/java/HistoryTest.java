@@ -5,11 +5,13 @@ public final class HistoryTest {
     public static void main(String[] args) {
         promise25Undo();
         promise25UndoOfEachChange();
+        promise25EachChangeIsAState();
         promise25LooksAreNoChanges();
         promise25LeavesThePad();
         promise26Save();
         promise27Restore();
         promise27RestoresEverything();
+        promise27RestoresAccounts();
         CHECKS.end();
     }
 
@@ -65,6 +67,31 @@ public final class HistoryTest {
         plans.drift(777);
         plans.undo();
         CHECKS.due("undo of drift", plans.counted(2), 200);
+    }
+
+    private static void promise25EachChangeIsAState() {
+        DriftPlans plans = new DriftPlans();
+        plans.rows(0, 10);
+        CHECKS.due("rows is a state", plans.undo(), 0);
+        plans.part(0, 1, 100);
+        CHECKS.due("part is a state", plans.undo(), 0);
+        plans.count(0);
+        CHECKS.due("count is a state", plans.undo(), 0);
+        plans.drift(200);
+        CHECKS.due("drift is a state", plans.undo(), 0);
+        plans.save();
+        plans.restore();
+        CHECKS.due("restore is a state", plans.undo(), 0);
+        Checks.write(plans, "p0");
+        plans.carryOut();
+        CHECKS.due("carryOut is a state", plans.undo(), 0);
+        plans.run(1);
+        CHECKS.due("run is a state", plans.counted(13), 1);
+        plans.pin(1);
+        CHECKS.due("pin is a state", plans.counted(13), 2);
+        plans.forget(1);
+        CHECKS.due("forget is a state", plans.counted(13), 3);
+        CHECKS.due("undo of all", plans.undo() + plans.undo() + plans.undo(), 3);
     }
 
     private static void promise25LooksAreNoChanges() {
@@ -178,5 +205,44 @@ public final class HistoryTest {
         CHECKS.due("runs", plans.plan(3, 7), 2);
         CHECKS.due("pinned", plans.plan(4, 8), 1);
         CHECKS.due("place", plans.plan(4, 11), 1);
+    }
+
+    private static void promise27RestoresAccounts() {
+        DriftPlans plans = new DriftPlans();
+        for (int turn = 0; turn < 2; turn++) {
+            usesAllAccounts(plans);
+            if (turn == 0) {
+                plans.save();
+            }
+        }
+        for (int what = 7; what <= 11; what++) {
+            CHECKS.holds("counted(" + what + ") grew", plans.counted(what) > 1);
+        }
+        plans.restore();
+        for (int what = 7; what <= 11; what++) {
+            CHECKS.due("counted(" + what + ") of the snapshot", plans.counted(what), what == 10 ? 4 : 1);
+        }
+        plans.undo();
+        CHECKS.due("counted(10) before", plans.counted(10), 8);
+    }
+
+    /** One drifted, one pushed out, one thrown out by a part, four forgotten, one used only; none is left. */
+    private static void usesAllAccounts(DriftPlans plans) {
+        plans.run(1);
+        plans.rows(0, plans.table(0, 0) == 10 ? 100 : 10);
+        plans.count(0);
+        plans.run(0b00110);
+        plans.part(1, 2, 100);
+        int[] shapes = {2, 1, 4, 8, 16};
+        for (int shape : shapes) {
+            plans.run(shape);
+        }
+        for (int place = 1; place < 5; place++) {
+            plans.pin(shapes[place]);
+        }
+        plans.run(31);
+        for (int place = 1; place < 5; place++) {
+            plans.forget(shapes[place]);
+        }
     }
 }

@@ -337,6 +337,9 @@ public final class PlansTest {
         CHECKS.due("a miss by guesses", plans.ifRun(0b00001), 110);
         CHECKS.due("misses", plans.counted(4), 1);
         CHECKS.due("hits", plans.counted(3), 0);
+        plans.rows(1, 2);
+        // by guesses 0 goes ahead of 1, by rows 1 would go ahead
+        CHECKS.due("the plan by guesses, the cost by rows", plans.ifRun(0b10011), 30 + 100 + 200 + 2000);
     }
 
     private static void promise24LeastDrift() {
