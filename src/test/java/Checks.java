@@ -3,11 +3,25 @@ final class Checks {
     private static final double CLOSE = 1e-12;
 
     private final String name;
+    private String sentence = "";
     private int made = 0;
     private int wrong = 0;
 
     Checks(String name) {
         this.name = name;
+    }
+
+    /** Runs the test of one sentence of the document; wrong answers in it are told with the sentence. */
+    void test(String sentence, Runnable body) {
+        this.sentence = "[" + sentence + "] ";
+        int before = made;
+        try {
+            body.run();
+        } catch (RuntimeException thrown) {
+            fail("a call threw " + thrown);
+        }
+        holds("the test checks something", made > before);
+        this.sentence = "";
     }
 
     void due(String what, long got, long want) {
@@ -24,6 +38,13 @@ final class Checks {
         }
     }
 
+    void dueText(String what, String got, String want) {
+        made++;
+        if (!got.equals(want)) {
+            fail(what + " is " + got + ", due is " + want);
+        }
+    }
+
     void holds(String what, boolean right) {
         made++;
         if (!right) {
@@ -34,7 +55,7 @@ final class Checks {
     private void fail(String what) {
         wrong++;
         if (wrong <= 20) {
-            System.out.println(name + ": " + what);
+            System.out.println(name + ": " + sentence + what);
         }
     }
 

@@ -52,7 +52,7 @@ public final class FaceTest {
         Set<String> seen = new TreeSet<>();
         Set<String> seenNames = new TreeSet<>();
         for (Method method : DriftPlans.class.getDeclaredMethods()) {
-            if (!Modifier.isPrivate(method.getModifiers())) {
+            if (!Modifier.isPrivate(method.getModifiers()) && !method.isSynthetic()) {
                 seenNames.add(method.getName());
                 String types = Arrays.toString(method.getParameterTypes());
                 seen.add(method.getReturnType() + " " + method.getName() + "("
