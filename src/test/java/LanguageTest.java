@@ -32,8 +32,8 @@ public final class LanguageTest {
     private static final int MOST_LINES = 70;
 
     public static void main(String[] args) throws IOException {
-        String source = Files.readString(Path.of(System.getProperty("driftplans.source",
-                "src/main/java/DriftPlans.java")), StandardCharsets.UTF_8);
+        Path root = Path.of(System.getProperty("driftplans.root", "."));
+        String source = Files.readString(root.resolve("src/main/java/DriftPlans.java"), StandardCharsets.UTF_8);
         String code = source.replaceAll("(?s)/\\*.*?\\*/", "").replaceAll("//[^\n]*", "");
         for (int place = 0; place < code.length(); place++) {
             if (code.charAt(place) > 127) {
