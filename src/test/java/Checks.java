@@ -1,7 +1,5 @@
 /** Counts the answers that are not due, and ends a test with exit code 1 if there was one. */
 final class Checks {
-    private static final double CLOSE = 1e-12;
-
     private final String name;
     private String sentence = "";
     private int made = 0;
@@ -33,7 +31,7 @@ final class Checks {
 
     void dueDouble(String what, double got, double want) {
         made++;
-        if (!(Math.abs(got - want) <= CLOSE)) {
+        if (got != want) {
             fail(what + " answered " + got + ", due is " + want);
         }
     }
